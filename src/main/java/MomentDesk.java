@@ -570,7 +570,7 @@ public final class MomentDesk {
         boolean changed;
         /** By x + 9; 0 where no point of the list is. */
         final int[] weightAt = new int[2 * MOST_X + 1];
-        /** Those beyond last are 0. */
+        /** Those beyond last mean nothing. */
         final long[] moments = new long[FIRST_LAST + 1];
         private final Polys polys = new Polys();
         private boolean polysAreOld = true;
@@ -631,7 +631,6 @@ public final class MomentDesk {
         }
 
         void change(long[] newMoments, int newLast) {
-            Arrays.fill(moments, 0);
             System.arraycopy(newMoments, 0, moments, 0, newLast + 1);
             last = newLast;
             changed = true;

@@ -32,16 +32,99 @@ public final class OracleRuns {
             this.seed = seed;
             random = new Random(seed * 7919L + 17);
             wild = seed % 3 == 0 ? 3 : 25;
-            flavour = seed % 5;
+            flavour = seed % 7;
         }
 
         void go() {
-            for (int call = 0; call < CALLS; call++) {
-                if (!step()) {
-                    wrong++;
-                    return;
+            boolean right = true;
+            for (int call = 0; call < CALLS && right; call++) {
+                right = call % 60 == 0 ? begin() : step();
+            }
+            if (!right) {
+                wrong++;
+            }
+        }
+
+        /** Weights of the run's flavour, as drawn calls alone seldom make rich ones. */
+        private boolean begin() {
+            boolean right = due("clear()", desk.clear(), slow.clear());
+            int source = flavour < 4 ? flavour : random.nextInt(4);
+            if (source == 0) {
+                int points = 1 + random.nextInt(11);
+                int least = random.nextInt(3) == 0 ? -99 : 1;
+                for (int i = 0; i < points && right; i++) {
+                    right = point(random.nextInt(19) - 9, least + random.nextInt(99 - least + 1));
+                }
+            } else if (source == 1) {
+                right = tellMoments();
+            } else {
+                for (int i = 0; i < 2 && right; i++) {
+                    right = source == 2 ? span() : counted();
                 }
             }
+            if (flavour == 4 || flavour == 6) {
+                for (int i = random.nextInt(8); i >= 0 && right; i--) {
+                    right = mirror(random.nextBoolean() ? pick(-9, 9) : random.nextBoolean() ? 9 : -9);
+                }
+            }
+            if (flavour == 5 || flavour == 6) {
+                for (int i = random.nextInt(10); i >= 0 && right; i--) {
+                    right = by(random.nextBoolean() ? pick(-9, 9) : random.nextBoolean() ? 9 : -9);
+                }
+            }
+            return right;
+        }
+
+        /** Either anything, or the moments of one or two points, of which the last ones are lost. */
+        private boolean tellMoments() {
+            boolean right = true;
+            int most = random.nextInt(3) == 0 ? 1000000 : random.nextInt(3) == 0 ? 3 : 900;
+            int x = random.nextInt(7) - 3;
+            int far = random.nextInt(1400) - 700;
+            int kind = random.nextInt(4);
+            for (int k = 0; k <= 11 && right; k++) {
+                int v = random.nextInt(2 * most + 1) - most;
+                if (kind == 0) {
+                    v = (int) Math.pow(x, k) + (k == 0 ? 1 : 0);
+                } else if (kind == 1) {
+                    v = Math.pow(far, k) > 900000 ? 0 : (int) Math.pow(far, k);
+                } else if (kind == 2 && k % 2 == 0) {
+                    v = Math.min(1000000, (int) Math.pow(4, k)) - random.nextInt(3);
+                }
+                right = moment(k, v);
+            }
+            return right;
+        }
+
+        private boolean point(int x, int weight) {
+            return due("point(" + x + ", " + weight + ")", desk.point(x, weight), slow.point(x, weight));
+        }
+
+        private boolean moment(int k, int v) {
+            return due("moment(" + k + ", " + v + ")", desk.moment(k, v), slow.moment(k, v));
+        }
+
+        private boolean span() {
+            int a = pick(-9, 8);
+            int b = pick(-8, 9);
+            return due("span(" + a + ", " + b + ")", desk.span(a, b), slow.span(a, b));
+        }
+
+        private boolean counted() {
+            int which = pick(0, 2);
+            int n = pick(1, which == 0 ? 9 : 6);
+            int u = pick(1, which == 1 ? 3 : 9);
+            int v = pick(1, which == 1 ? 3 : 9);
+            return due("counted(" + which + ", " + n + ", " + u + ", " + v + ")",
+                desk.counted(which, n, u, v), slow.counted(which, n, u, v));
+        }
+
+        private boolean by(int c) {
+            return due("by(" + c + ")", desk.by(c), slow.by(c));
+        }
+
+        private boolean mirror(int c) {
+            return due("mirror(" + c + ")", desk.mirror(c), slow.mirror(c));
         }
 
         /** A number of the range, or now and then one at or beyond its edges. */
@@ -72,42 +155,35 @@ public final class OracleRuns {
 
         private boolean step() {
             int kind = random.nextInt(100);
-            if (kind < 30) {
+            if (kind < 12) {
                 return change();
             }
-            return kind < 75 ? lay() && hand() : ask();
+            return kind < 65 ? lay() && hand() : ask();
         }
 
         private boolean change() {
-            int a, b, c, d;
-            switch (random.nextInt(100) < 60 ? flavour : random.nextInt(9)) {
+            int place;
+            switch (random.nextInt(9)) {
                 case 0:
-                    a = pick(-9, 9); b = random.nextInt(3) == 0 ? pick(-99, 99) : pick(1, 9);
-                    return due("point(" + a + ", " + b + ")", desk.point(a, b), slow.point(a, b));
+                    return point(pick(-9, 9), random.nextInt(3) == 0 ? pick(-99, 99) : pick(1, 9));
                 case 1:
-                    a = pick(0, 11); b = random.nextInt(3) == 0 ? pick(-1000000, 1000000) : pick(-3, 5);
-                    return due("moment(" + a + ", " + b + ")", desk.moment(a, b), slow.moment(a, b));
+                    return moment(pick(0, 11), random.nextInt(3) == 0 ? pick(-1000000, 1000000) : pick(-3, 5));
                 case 2:
-                    a = pick(-9, 8); b = pick(-8, 9);
-                    return due("span(" + a + ", " + b + ")", desk.span(a, b), slow.span(a, b));
+                    return random.nextInt(5) == 0 ? span() : point(pick(-9, 9), pick(-99, 99));
                 case 3:
-                    a = pick(0, 2); b = pick(1, a == 0 ? 9 : 6); c = pick(1, a == 1 ? 3 : 9); d = pick(1, a == 1 ? 3 : 9);
-                    return due("counted(" + a + ", " + b + ", " + c + ", " + d + ")",
-                        desk.counted(a, b, c, d), slow.counted(a, b, c, d));
+                    return random.nextInt(5) == 0 ? counted() : moment(pick(0, 11), pick(-99, 99));
                 case 4:
-                    a = pick(-9, 9);
-                    return due("mirror(" + a + ")", desk.mirror(a), slow.mirror(a));
+                    return mirror(pick(-9, 9));
                 case 5:
-                    return due("clear()", desk.clear(), slow.clear());
+                    return random.nextInt(5) == 0 ? due("clear()", desk.clear(), slow.clear()) : by(pick(-9, 9));
                 case 6:
-                    a = pick(-9, 9);
-                    return due("by(" + a + ")", desk.by(a), slow.by(a));
+                    return by(pick(-9, 9));
                 case 7:
-                    a = pick(0, 1);
-                    return due("keep(" + a + ")", desk.keep(a), slow.keep(a));
+                    place = pick(0, 1);
+                    return due("keep(" + place + ")", desk.keep(place), slow.keep(place));
                 default:
-                    a = pick(0, 1);
-                    return due("back(" + a + ")", desk.back(a), slow.back(a));
+                    place = pick(0, 1);
+                    return due("back(" + place + ")", desk.back(place), slow.back(place));
             }
         }
 
