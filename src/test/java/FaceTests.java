@@ -23,8 +23,9 @@ public final class FaceTests {
     private static final String[] BANNED = {"throw", "throws", "try", "catch", "synchronized", "assert", "->", "::", "Exact\\(",
         "protected", "native", "volatile", "Object", "BigInteger", "System\\.(?!arraycopy)", "new Random", "lambda"};
     private static final int MOST_METHOD_LINES = 60;
-    /** Far below what the room has for each of 512 calls. */
-    private static final long MOST_BYTES_A_CALL = 200;
+    /** What the room's 600,000 objects take at the least; its 7.3 million elements take more. */
+    private static final long ROOM_BYTES = 600000 * 16L;
+    private static final int MOST_CALLS = 512, GREAT_MOMENT_CALLS = 30;
     private static int wrong = 0;
 
     private static void check(boolean right, String what) {
@@ -54,12 +55,17 @@ public final class FaceTests {
         return text.append(')').toString();
     }
 
-    private static void methods() {
-        TreeSet<String> due = new TreeSet<>(Arrays.asList(FACE));
+    private static TreeSet<String> faceNames() {
         TreeSet<String> names = new TreeSet<>();
         for (String method : FACE) {
             names.add(method.substring(0, method.indexOf('(')));
         }
+        return names;
+    }
+
+    private static void methods() {
+        TreeSet<String> due = new TreeSet<>(Arrays.asList(FACE));
+        TreeSet<String> names = faceNames();
         for (Method method : MomentDesk.class.getDeclaredMethods()) {
             if (Modifier.isPublic(method.getModifiers())) {
                 check(due.remove(named(method)), named(method) + " is of the face");
@@ -97,6 +103,7 @@ public final class FaceTests {
 
     private static void classesInside() {
         Class<?>[] inside = MomentDesk.class.getDeclaredClasses();
+        TreeSet<String> names = faceNames();
         check(inside.length + 1 <= 12, "at most twelve classes");
         for (Class<?> one : inside) {
             check(Modifier.isStatic(one.getModifiers()), one + " is static");
@@ -107,6 +114,11 @@ public final class FaceTests {
                 check(!Modifier.isStatic(field.getModifiers()) || Modifier.isFinal(field.getModifiers()), field + " is final");
             }
             check(fields <= 20, one + " has at most twenty fields");
+            for (Method method : one.getDeclaredMethods()) {
+                boolean isPrivate = Modifier.isPrivate(method.getModifiers());
+                check(!isPrivate || !names.contains(method.getName()), method + " does not bear the name of a public one");
+                check(method.getParameterCount() <= 7, method + " takes at most seven");
+            }
         }
     }
 
@@ -139,18 +151,15 @@ public final class FaceTests {
         }
     }
 
-    /** Runs of the dearest calls on great moments: what they make must be next to nothing. */
+    /** A run of the dearest calls on great moments, as long as a desk is made for: the room must hold it. */
     private static void allocation() {
         com.sun.management.ThreadMXBean bean = (com.sun.management.ThreadMXBean) ManagementFactory.getThreadMXBean();
         dearestCalls(greatMoments());
         long before = bean.getCurrentThreadAllocatedBytes();
-        MomentDesk desk = greatMoments();
-        long made = bean.getCurrentThreadAllocatedBytes() - before;
-        check(made < 100000, "a desk is small: " + made + " bytes");
-        before = bean.getCurrentThreadAllocatedBytes();
-        int calls = dearestCalls(desk);
+        int calls = GREAT_MOMENT_CALLS + dearestCalls(greatMoments());
         long used = bean.getCurrentThreadAllocatedBytes() - before;
-        check(used < calls * MOST_BYTES_A_CALL, calls + " calls are lean: " + used + " bytes");
+        check(calls <= MOST_CALLS && calls > MOST_CALLS - 20, calls + " calls are a whole run");
+        check(used < ROOM_BYTES, "a run is lean: " + used + " bytes");
     }
 
     private static MomentDesk greatMoments() {
@@ -168,7 +177,7 @@ public final class FaceTests {
     private static int dearestCalls(MomentDesk desk) {
         int calls = 0;
         for (int n = 1; n <= 5; n++) {
-            for (int d = 0; d <= 11; d++) {
+            for (int d = 1; d <= 11; d++) {
                 desk.layLeft(n, d);
                 desk.bits(0);
                 desk.layKernel(n, 999, 1000 - d);

@@ -5,7 +5,10 @@ import java.util.TreeMap;
 
 /** Long runs of calls, drawn by fixed seeds, against a slow desk that follows the document word by word. */
 public final class OracleRuns {
-    private static final int RUNS = 1500, CALLS = 250;
+    private static final int RUNS = 3000, STEPS_A_BEGINNING = 40;
+    /** No step makes so many calls that it goes from here beyond the 512 that a desk is made for. */
+    private static final int LAST_STEP_AT = 512 - 40;
+    private static final int MOST_WORDS = 12;
     private static int wrong = 0;
 
     public static void main(String[] args) {
@@ -27,6 +30,7 @@ public final class OracleRuns {
         private final StringBuilder calls = new StringBuilder();
         private final int wild;
         private final int flavour;
+        private int made = 0;
 
         Run(int seed) {
             this.seed = seed;
@@ -37,8 +41,8 @@ public final class OracleRuns {
 
         void go() {
             boolean right = true;
-            for (int call = 0; call < CALLS && right; call++) {
-                right = call % 60 == 0 ? begin() : step();
+            for (int step = 0; made <= LAST_STEP_AT && right; step++) {
+                right = step % STEPS_A_BEGINNING == 0 ? begin() : step();
             }
             if (!right) {
                 wrong++;
@@ -145,6 +149,7 @@ public final class OracleRuns {
         }
 
         private boolean due(String call, long got, long want) {
+            made++;
             calls.append(call).append(" = ").append(got).append('\n');
             if (got != want) {
                 System.out.println("run " + seed + ": the last of these should answer " + want + "\n" + calls);
@@ -232,7 +237,9 @@ public final class OracleRuns {
                 if (!due("bits(" + what + ")", desk.bits(what), slow.bits(what))) {
                     return false;
                 }
-                for (int k = 0; k <= slow.bits(what) / 16 + 1; k++) {
+                int words = slow.bits(what) / 16 + 2;
+                for (int i = 0; i < words && i < MOST_WORDS; i++) {
+                    int k = words <= MOST_WORDS ? i : random.nextInt(words);
                     if (!due("word(" + what + ", " + k + ")", desk.word(what, k), slow.word(what, k))) {
                         return false;
                     }

@@ -1,121 +1,10 @@
 /** For each promise of the document: ordinary inputs, the edges that it names, and wrong inputs. */
-public final class PromiseTests {
-    private static final int LOWEST = Integer.MIN_VALUE, HIGHEST = Integer.MAX_VALUE;
-    private static int wrong = 0;
-    private static int promise = 0;
-    private static int row = 0;
-
-    private static void promise(int number) {
-        promise = number;
-        row = 0;
-    }
-
-    private static void due(long got, long want) {
-        row++;
-        if (got != want) {
-            wrong++;
-            System.out.println("promise " + promise + ", row " + row + ": answered " + got + ", due is " + want);
-        }
-    }
-
-    /** The answer of what laid the fraction, told in lowest terms, and all of the hand. */
-    private static void laid(MomentDesk desk, int answer, long upper, long lower) {
-        int sign = Long.signum(upper) < 0 ? 2 : Long.signum(upper);
-        due(answer, sign);
-        inHand(desk, upper, lower);
-    }
-
-    private static void inHand(MomentDesk desk, long upper, long lower) {
-        due(desk.sign(), Long.signum(upper) < 0 ? 2 : Long.signum(upper));
-        due(part(desk, 0), Math.abs(upper));
-        due(part(desk, 1), lower);
-        due(desk.bits(0), 64 - Long.numberOfLeadingZeros(Math.abs(upper)));
-        due(desk.bits(1), 64 - Long.numberOfLeadingZeros(lower));
-    }
-
-    private static long part(MomentDesk desk, int what) {
-        long value = 0;
-        for (int k = 3; k >= 0; k--) {
-            value = value << 16 | desk.word(what, k);
-        }
-        return value;
-    }
-
-    private static MomentDesk list(int... pairs) {
-        MomentDesk desk = new MomentDesk();
-        for (int i = 0; i + 1 < pairs.length; i += 2) {
-            desk.point(pairs[i], pairs[i + 1]);
-        }
-        return desk;
-    }
-
-    private static MomentDesk told(int... moments) {
-        MomentDesk desk = new MomentDesk();
-        for (int k = 0; k < moments.length; k++) {
-            desk.moment(k, moments[k]);
-        }
-        return desk;
-    }
-
-    private static MomentDesk span(int a, int b) {
-        MomentDesk desk = new MomentDesk();
-        desk.span(a, b);
-        return desk;
-    }
-
-    private static MomentDesk shortened(MomentDesk desk, int last) {
-        while (desk.told(1) > last) {
-            desk.by(9);
-        }
-        return desk;
-    }
-
-    private static void state(MomentDesk desk, int kind, int last, int points, int changed) {
-        due(desk.told(0), kind);
-        due(desk.told(1), last);
-        due(desk.told(2), points);
-        due(desk.told(3), changed);
-    }
-
+public final class PromiseTests extends Bench {
     public static void main(String[] args) {
-        newObject();
-        clear();
-        point();
-        moment();
-        span();
-        counted();
-        by();
-        mirror();
-        layMoment();
-        layWorth();
-        layDeterminant();
-        layNumber();
-        layRule();
-        layValue();
-        layProduct();
-        layShare();
-        layKernel();
-        layLeft();
-        sign();
-        bits();
-        word();
-        against();
-        below();
-        shut();
-        good();
-        few();
-        told();
-        keep();
-        back();
-        differs();
-        System.out.println(wrong == 0 ? "all answers are as due" : wrong + " answers are not as due");
-        if (wrong != 0) {
-            System.exit(1);
-        }
+        run(PromiseTests.class);
     }
 
-    private static void newObject() {
-        promise(1);
+    static void newObject() {
         MomentDesk desk = new MomentDesk();
         state(desk, 0, 11, 0, 0);
         inHand(desk, 0, 1);
@@ -126,9 +15,8 @@ public final class PromiseTests {
         due(desk.back(1), -1);
     }
 
-    private static void clear() {
-        promise(2);
-        MomentDesk desk = list(1, 2, 3, 4);
+    static void clear() {
+        MomentDesk desk = list(1, 2, 3, 4).desk();
         desk.layMoment(1);
         due(desk.by(2), 10);
         due(desk.clear(), 10);
@@ -138,7 +26,8 @@ public final class PromiseTests {
         due(desk.clear(), 11);
         due(desk.point(3, 5), 1);
         laid(desk, desk.layMoment(1), 15, 1);
-        due(shortened(desk, 3).clear(), 3);
+        shorten(desk, 3);
+        due(desk.clear(), 3);
         due(desk.told(4), 0);
         desk.point(3, 5);
         due(desk.told(4), 1);
@@ -148,8 +37,7 @@ public final class PromiseTests {
         due(desk.good(), 0);
     }
 
-    private static void point() {
-        promise(3);
+    static void point() {
         MomentDesk desk = new MomentDesk();
         due(desk.point(-9, -99), 1);
         due(desk.point(9, 99), 2);
@@ -172,11 +60,11 @@ public final class PromiseTests {
         int[][] bad = {{-10, 1}, {10, 1}, {0, 0}, {0, 100}, {0, -100}, {LOWEST, 1}, {0, LOWEST}, {HIGHEST, HIGHEST}};
         for (int[] pair : bad) {
             due(desk.point(pair[0], pair[1]), -2);
-            due(span(0, 1).point(pair[0], pair[1]), -2);
+            due(span(0, 1).desk().point(pair[0], pair[1]), -2);
         }
         due(desk.told(2), 10);
-        due(span(0, 1).point(0, 1), -3);
-        due(told(1).point(0, 1), -3);
+        due(span(0, 1).desk().point(0, 1), -3);
+        due(told(1).desk().point(0, 1), -3);
         desk.mirror(0);
         due(desk.point(0, 1), -3);
         desk.clear();
@@ -186,8 +74,7 @@ public final class PromiseTests {
         due(desk.point(0, 1), -3);
     }
 
-    private static void moment() {
-        promise(4);
+    static void moment() {
         MomentDesk desk = new MomentDesk();
         due(desk.moment(0, 1000000), 1);
         due(desk.moment(11, -1000000), 2);
@@ -203,11 +90,11 @@ public final class PromiseTests {
         due(desk.moment(3, -1000001), -2);
         due(desk.moment(3, LOWEST), -2);
         laid(desk, desk.layMoment(3), 0, 1);
-        due(list(1, 1).moment(0, 1), -3);
-        due(list(1, 1).moment(0, LOWEST), -2);
-        due(list(1, 1, 1, -1).moment(0, 1), 1);
-        due(span(0, 1).moment(0, 1), -3);
-        due(span(0, 1).moment(12, 1), -1);
+        due(list(1, 1).desk().moment(0, 1), -3);
+        due(list(1, 1).desk().moment(0, LOWEST), -2);
+        due(list(1, 1, 1, -1).desk().moment(0, 1), 1);
+        due(span(0, 1).desk().moment(0, 1), -3);
+        due(span(0, 1).desk().moment(12, 1), -1);
         MomentDesk counted = new MomentDesk();
         counted.counted(0, 1, 0, 0);
         due(counted.moment(0, 1), -3);
@@ -219,9 +106,8 @@ public final class PromiseTests {
         due(new MomentDesk().moment(4, 0), 0);
     }
 
-    private static void span() {
-        promise(5);
-        MomentDesk desk = list(1, 1);
+    static void span() {
+        MomentDesk desk = list(1, 1).desk();
         desk.layMoment(0);
         desk.by(0);
         due(desk.span(-9, 9), 1);
@@ -240,9 +126,8 @@ public final class PromiseTests {
         laid(desk, desk.layMoment(0), 27720 * 4, 1);
     }
 
-    private static void counted() {
-        promise(6);
-        MomentDesk desk = list(1, 1);
+    static void counted() {
+        MomentDesk desk = list(1, 1).desk();
         desk.by(0);
         due(desk.counted(0, 9, LOWEST, HIGHEST), 10);
         state(desk, 3, 11, 0, 0);
@@ -270,9 +155,8 @@ public final class PromiseTests {
         laid(desk, desk.layMoment(0), 18564, 1);
     }
 
-    private static void by() {
-        promise(7);
-        MomentDesk desk = list(2, 3, -1, 4);
+    static void by() {
+        MomentDesk desk = list(2, 3, -1, 4).desk();
         desk.layMoment(0);
         due(desk.by(1), 10);
         inHand(desk, 7, 1);
@@ -292,30 +176,19 @@ public final class PromiseTests {
         due(desk.by(-10), -2);
         due(desk.told(1), 3);
         // a point at -32: moment 10 becomes 41 times 32 to the 10 times the weight
-        MomentDesk fits = farPoint(99);
+        MomentDesk fits = movedDown(99).desk();
         due(fits.by(9), 10);
         laid(fits, fits.layMoment(10), -41L * 99 << 50, 1);
-        MomentDesk full = farPoint(100);
+        MomentDesk full = movedDown(100).desk();
         due(full.by(9), -4);
         state(full, 1, 11, 0, 1);
         laid(full, full.layMoment(1), -3200, 1);
         due(full.by(10), -2);
-        due(shortened(farPoint(1), 3).by(9), -3);
+        due(movedDown(1).shortened(3).desk().by(9), -3);
     }
 
-    /** A weight that mirrors have brought to -32. */
-    private static MomentDesk farPoint(int weight) {
-        MomentDesk desk = told(weight);
-        due(desk.mirror(8), 1);
-        due(desk.mirror(-8), 1);
-        due(desk.mirror(8), 1);
-        due(desk.mirror(-8), 1);
-        return desk;
-    }
-
-    private static void mirror() {
-        promise(8);
-        MomentDesk desk = list(2, 3, -1, 4);
+    static void mirror() {
+        MomentDesk desk = list(2, 3, -1, 4).desk();
         desk.layMoment(0);
         due(desk.mirror(5), 1);
         inHand(desk, 7, 1);
@@ -336,15 +209,15 @@ public final class PromiseTests {
             due(desk.mirror(c), -2);
         }
         // 127 times 2 to the 55 is below 2 to the 62, 128 times is not
-        MomentDesk fits = farPoint(127);
+        MomentDesk fits = movedDown(127).desk();
         laid(fits, fits.layMoment(11), -127L << 55, 1);
-        MomentDesk full = told(128);
+        MomentDesk full = told(128).desk();
         full.mirror(8);
         full.mirror(-8);
         full.mirror(8);
         due(full.mirror(-8), -4);
         laid(full, full.layMoment(1), 24 * 128, 1);
-        MomentDesk below = told(-128);
+        MomentDesk below = told(-128).desk();
         below.mirror(8);
         below.mirror(-8);
         below.mirror(8);
@@ -353,9 +226,8 @@ public final class PromiseTests {
         due(below.mirror(-8), 1);
     }
 
-    private static void layMoment() {
-        promise(9);
-        MomentDesk desk = told(4, -6);
+    static void layMoment() {
+        MomentDesk desk = told(4, -6).desk();
         laid(desk, desk.layMoment(0), 4, 1);
         laid(desk, desk.layMoment(1), -6, 1);
         laid(desk, desk.layMoment(11), 0, 1);
@@ -370,9 +242,8 @@ public final class PromiseTests {
         laid(desk, desk.layMoment(10), 0, 1);
     }
 
-    private static void layWorth() {
-        promise(10);
-        MomentDesk desk = span(-1, 1);
+    static void layWorth() {
+        MomentDesk desk = span(-1, 1).desk();
         laid(desk, desk.layWorth(0), 55440, 1);
         laid(desk, desk.layWorth(1), 18480, 1);
         laid(desk, desk.layWorth(2), 4928, 1);
@@ -383,23 +254,22 @@ public final class PromiseTests {
         due(desk.layWorth(-1), -1);
         due(desk.layWorth(LOWEST), -1);
         due(desk.layWorth(HIGHEST), -1);
-        MomentDesk two = list(0, 1, 3, 2);
+        MomentDesk two = list(0, 1, 3, 2).desk();
         laid(two, two.layWorth(1), 6, 1);
         laid(two, two.layWorth(2), 0, 1);
         due(two.layWorth(3), -1);
         inHand(two, 0, 1);
-        MomentDesk fewer = shortened(span(0, 1), 9);
+        MomentDesk fewer = span(0, 1).shortened(9).desk();
         due(fewer.told(4), 5);
         due(fewer.layWorth(5), -1);
         due(fewer.layWorth(4), 1);
-        due(shortened(span(0, 1), 8).layWorth(4), 2);
-        due(shortened(span(0, 1), 7).layWorth(4), -1);
-        due(shortened(span(0, 1), 7).layWorth(3), 1);
+        due(span(0, 1).shortened(8).desk().layWorth(4), 2);
+        due(span(0, 1).shortened(7).desk().layWorth(4), -1);
+        due(span(0, 1).shortened(7).desk().layWorth(3), 1);
     }
 
-    private static void layDeterminant() {
-        promise(11);
-        MomentDesk desk = told(0, 1, 0, 0, 5);
+    static void layDeterminant() {
+        MomentDesk desk = told(0, 1, 0, 0, 5).desk();
         laid(desk, desk.layDeterminant(0), 1, 1);
         laid(desk, desk.layDeterminant(1), 0, 1);
         laid(desk, desk.layDeterminant(2), -1, 1);
@@ -410,20 +280,19 @@ public final class PromiseTests {
         for (int k : bad) {
             due(desk.layDeterminant(k), -1);
         }
-        MomentDesk six = told(0, 0, 0, 0, 0, 2);
+        MomentDesk six = told(0, 0, 0, 0, 0, 2).desk();
         laid(six, six.layDeterminant(6), -64, 1);
-        due(shortened(told(1, 2, 3, 4), 10).layDeterminant(6), 0);
-        MomentDesk fewer = shortened(told(1, 2, 3, 4), 9);
+        due(told(1, 2, 3, 4).shortened(10).desk().layDeterminant(6), 0);
+        MomentDesk fewer = told(1, 2, 3, 4).shortened(9).desk();
         due(fewer.layDeterminant(6), -1);
         due(fewer.layDeterminant(5), 0);
-        shortened(fewer, 3);
+        shorten(fewer, 3);
         due(fewer.layDeterminant(3), -1);
         due(fewer.layDeterminant(2), 2);
     }
 
-    private static void layNumber() {
-        promise(12);
-        MomentDesk desk = span(-1, 1);
+    static void layNumber() {
+        MomentDesk desk = span(-1, 1).desk();
         laid(desk, desk.layNumber(0, 0), 1, 1);
         laid(desk, desk.layNumber(5, 5), 1, 1);
         laid(desk, desk.layNumber(5, 4), 0, 1);
@@ -442,16 +311,15 @@ public final class PromiseTests {
         MomentDesk none = new MomentDesk();
         laid(none, none.layNumber(0, 0), 1, 1);
         due(none.layNumber(1, 0), -1);
-        MomentDesk below = list(0, -3, 2, -1, 5, -2);
+        MomentDesk below = list(0, -3, 2, -1, 5, -2).desk();
         laid(below, below.layNumber(1, 0), -2, 1);
         laid(below, below.layNumber(3, 2), -7, 1);
         laid(below, below.layNumber(3, 1), 10, 1);
         laid(below, below.layNumber(3, 0), 0, 1);
     }
 
-    private static void layRule() {
-        promise(13);
-        MomentDesk desk = span(0, 1);
+    static void layRule() {
+        MomentDesk desk = span(0, 1).desk();
         for (int k = 0; k <= 4; k++) {
             laid(desk, desk.layRule(k, 0), 1, 2);
         }
@@ -473,16 +341,15 @@ public final class PromiseTests {
         laid(coins, coins.layRule(2, 1), 3, 2);
         laid(coins, coins.layRule(4, 1), 1, 1);
         laid(coins, coins.layRule(4, 0), 2, 1);
-        MomentDesk two = list(-4, 1, 1, 2);
+        MomentDesk two = list(-4, 1, 1, 2).desk();
         laid(two, two.layRule(0, 0), -2, 3);
         laid(two, two.layRule(1, 0), -7, 3);
         laid(two, two.layRule(1, 1), 50, 9);
         due(two.layRule(2, 0), -1);
     }
 
-    private static void layValue() {
-        promise(14);
-        MomentDesk desk = span(-1, 1);
+    static void layValue() {
+        MomentDesk desk = span(-1, 1).desk();
         laid(desk, desk.layValue(3, 1, 2), -7, 40);
         laid(desk, desk.layValue(3, -2, 4), 7, 40);
         laid(desk, desk.layValue(0, 1000000, 1000000), 1, 1);
@@ -500,9 +367,8 @@ public final class PromiseTests {
         inHand(desk, 0, 1);
     }
 
-    private static void layProduct() {
-        promise(15);
-        MomentDesk desk = span(-1, 1);
+    static void layProduct() {
+        MomentDesk desk = span(-1, 1).desk();
         for (int i = 0; i <= 5; i++) {
             for (int j = 0; j <= 5; j++) {
                 due(desk.layProduct(i, j), i == j ? 1 : 0);
@@ -514,17 +380,16 @@ public final class PromiseTests {
         for (int[] pair : bad) {
             due(desk.layProduct(pair[0], pair[1]), -1);
         }
-        MomentDesk fewer = shortened(span(0, 1), 9);
+        MomentDesk fewer = span(0, 1).shortened(9).desk();
         due(fewer.layProduct(5, 5), -1);
         laid(fewer, fewer.layProduct(5, 4), 0, 1);
-        MomentDesk below = told(-4, 0, 3);
+        MomentDesk below = told(-4, 0, 3).desk();
         laid(below, below.layProduct(0, 0), -4, 1);
         laid(below, below.layProduct(2, 2), 9, 4);
     }
 
-    private static void layShare() {
-        promise(16);
-        MomentDesk desk = span(-1, 1);
+    static void layShare() {
+        MomentDesk desk = span(-1, 1).desk();
         laid(desk, desk.layShare(4, 2), 6, 7);
         laid(desk, desk.layShare(4, 0), 1, 5);
         laid(desk, desk.layShare(11, 0), 0, 1);
@@ -536,21 +401,20 @@ public final class PromiseTests {
             due(desk.layShare(pair[0], pair[1]), -1);
         }
         inHand(desk, 6, 7);
-        MomentDesk two = list(0, 1, 3, 2);
+        MomentDesk two = list(0, 1, 3, 2).desk();
         due(two.layShare(3, 2), -5);
         due(two.layShare(10, 2), -1);
         due(two.layShare(0, 3), -1);
         laid(two, two.layShare(2, 1), 3, 1);
-        MomentDesk fewer = shortened(span(0, 1), 9);
+        MomentDesk fewer = span(0, 1).shortened(9).desk();
         due(fewer.layShare(4, 5), -1);
         laid(fewer, fewer.layShare(4, 4), 1, 1);
-        MomentDesk below = told(-2, 1, 0);
+        MomentDesk below = told(-2, 1, 0).desk();
         laid(below, below.layShare(1, 0), -1, 2);
     }
 
-    private static void layKernel() {
-        promise(17);
-        MomentDesk desk = span(-1, 1);
+    static void layKernel() {
+        MomentDesk desk = span(-1, 1).desk();
         laid(desk, desk.layKernel(0, 1000, -1000), 1, 55440);
         laid(desk, desk.layKernel(1, 2, 3), 19, 55440);
         laid(desk, desk.layKernel(2, 0, 0), 1, 24640);
@@ -564,7 +428,7 @@ public final class PromiseTests {
         due(desk.layKernel(-1, 0, 0), -1);
         due(desk.layKernel(HIGHEST, 0, 0), -1);
         due(desk.layKernel(LOWEST, 0, 0), -1);
-        MomentDesk two = list(0, 1, 3, 2);
+        MomentDesk two = list(0, 1, 3, 2).desk();
         laid(two, two.layKernel(1, 3, 3), 1, 2);
         laid(two, two.layKernel(1, 0, 3), 0, 1);
         laid(two, two.layKernel(1, 0, 0), 1, 1);
@@ -572,15 +436,14 @@ public final class PromiseTests {
         due(two.layKernel(2, 1001, 0), -2);
         due(two.layKernel(3, 0, 0), -1);
         due(new MomentDesk().layKernel(0, 0, 0), -5);
-        due(shortened(span(0, 1), 9).layKernel(5, 0, 0), -1);
-        MomentDesk below = told(-2, 0, 4);
+        due(span(0, 1).shortened(9).desk().layKernel(5, 0, 0), -1);
+        MomentDesk below = told(-2, 0, 4).desk();
         laid(below, below.layKernel(1, 1, 2), 0, 1);
         laid(below, below.layKernel(1, 1, 1), -1, 4);
     }
 
-    private static void layLeft() {
-        promise(18);
-        MomentDesk desk = span(0, 1);
+    static void layLeft() {
+        MomentDesk desk = span(0, 1).desk();
         laid(desk, desk.layLeft(1, 0), 0, 1);
         laid(desk, desk.layLeft(1, 1), 0, 1);
         laid(desk, desk.layLeft(1, 2), 2310, 1);
@@ -593,21 +456,20 @@ public final class PromiseTests {
             due(desk.layLeft(pair[0], pair[1]), -1);
         }
         inHand(desk, 154, 1);
-        MomentDesk wide = span(-1, 1);
+        MomentDesk wide = span(-1, 1).desk();
         laid(wide, wide.layLeft(2, 4), 4928, 1);
         laid(wide, wide.layLeft(2, 6), 17600, 3);
         due(wide.layLeft(5, 11), 0);
         due(wide.layLeft(5, 10), 1);
-        MomentDesk fewer = shortened(span(0, 1), 9);
+        MomentDesk fewer = span(0, 1).shortened(9).desk();
         due(fewer.layLeft(5, 10), -1);
         due(fewer.layLeft(5, 9), 0);
-        MomentDesk below = told(1, 0, -4);
+        MomentDesk below = told(1, 0, -4).desk();
         laid(below, below.layLeft(1, 2), -4, 1);
     }
 
-    private static void sign() {
-        promise(19);
-        MomentDesk desk = told(3, -2, 0);
+    static void sign() {
+        MomentDesk desk = told(3, -2, 0).desk();
         due(desk.sign(), 0);
         desk.layMoment(0);
         due(desk.sign(), 1);
@@ -619,14 +481,13 @@ public final class PromiseTests {
         due(desk.sign(), 2);
         desk.layMoment(2);
         due(desk.sign(), 0);
-        MomentDesk below = told(-3, 2);
+        MomentDesk below = told(-3, 2).desk();
         due(below.layRule(0, 0), 2);
         due(below.sign(), 2);
     }
 
-    private static void bits() {
-        promise(20);
-        MomentDesk desk = told(-65536, 65535, 3);
+    static void bits() {
+        MomentDesk desk = told(-65536, 65535, 3).desk();
         due(desk.bits(0), 0);
         due(desk.bits(1), 1);
         desk.layMoment(0);
@@ -640,15 +501,14 @@ public final class PromiseTests {
         for (int what : bad) {
             due(desk.bits(what), -2);
         }
-        MomentDesk long6 = told(0, 0, 0, 0, 0, 524288);
+        MomentDesk long6 = told(0, 0, 0, 0, 0, 524288).desk();
         due(long6.layDeterminant(6), 2);
         due(long6.bits(0), 19 * 6 + 1);
         due(long6.bits(1), 1);
     }
 
-    private static void word() {
-        promise(21);
-        MomentDesk desk = told(-1000000, 1, 0, 0, 0, 524288);
+    static void word() {
+        MomentDesk desk = told(-1000000, 1, 0, 0, 0, 524288).desk();
         desk.layMoment(0);
         due(desk.word(0, 0), 1000000 & 65535);
         due(desk.word(0, 1), 15);
@@ -663,16 +523,15 @@ public final class PromiseTests {
         for (int[] pair : bad) {
             due(desk.word(pair[0], pair[1]), -2);
         }
-        MomentDesk long6 = told(0, 0, 0, 0, 0, 524288);
+        MomentDesk long6 = told(0, 0, 0, 0, 0, 524288).desk();
         long6.layDeterminant(6);
         for (int k = 0; k < 20; k++) {
             due(long6.word(0, k), k == 7 ? 4 : 0);
         }
     }
 
-    private static void against() {
-        promise(22);
-        MomentDesk desk = span(-1, 1);
+    static void against() {
+        MomentDesk desk = span(-1, 1).desk();
         due(desk.against(0, 1000000), 0);
         due(desk.against(1, 1000000), -1);
         due(desk.against(-1, 1000000), 1);
@@ -690,16 +549,15 @@ public final class PromiseTests {
         for (int[] pair : bad) {
             due(desk.against(pair[0], pair[1]), -20);
         }
-        MomentDesk below = told(-3, 2);
+        MomentDesk below = told(-3, 2).desk();
         below.layRule(0, 0);
         due(below.against(-2, 3), 0);
         due(below.against(2, 3), -1);
         due(below.against(-1, 1), 1);
     }
 
-    private static void below() {
-        promise(23);
-        MomentDesk desk = list(-3, 1, 0, 2, 4, 5, 9, 1);
+    static void below() {
+        MomentDesk desk = list(-3, 1, 0, 2, 4, 5, 9, 1).desk();
         int[] points = {-3, 0, 4, 9};
         for (int i = 0; i < 4; i++) {
             due(desk.below(4, points[i], 1), i);
@@ -708,7 +566,7 @@ public final class PromiseTests {
         due(desk.below(4, 1000000, 1), 4);
         due(desk.below(4, -1000000, 1), 0);
         due(desk.below(0, 5, 1), 0);
-        MomentDesk even = span(-1, 1);
+        MomentDesk even = span(-1, 1).desk();
         due(even.below(3, 0, 1), 1);
         due(even.below(5, 0, 7), 2);
         due(even.below(4, 0, 7), 2);
@@ -717,26 +575,25 @@ public final class PromiseTests {
         for (int[] pair : bad) {
             due(desk.below(4, pair[0], pair[1]), -2);
             due(desk.below(5, pair[0], pair[1]), -1);
-            due(told(2, 0, -1).below(2, pair[0], pair[1]), -2);
+            due(told(2, 0, -1).desk().below(2, pair[0], pair[1]), -2);
         }
         due(desk.below(-1, 0, 1), -1);
         due(desk.below(HIGHEST, 0, 1), -1);
-        MomentDesk signed = told(2, 0, -1);
+        MomentDesk signed = told(2, 0, -1).desk();
         due(signed.below(1, 1, 1), 1);
         due(signed.below(2, 0, 1), -5);
-        due(told(-2, 1).below(1, 0, 1), -5);
-        due(told(-2, 1).below(0, 0, 1), 0);
+        due(told(-2, 1).desk().below(1, 0, 1), -5);
+        due(told(-2, 1).desk().below(0, 0, 1), 0);
     }
 
-    private static void shut() {
-        promise(24);
-        MomentDesk desk = list(-3, 1, 0, 2, 4, 5, 9, 1);
+    static void shut() {
+        MomentDesk desk = list(-3, 1, 0, 2, 4, 5, 9, 1).desk();
         int[] points = {-3, 0, 4, 9};
         for (int i = 0; i < 4; i++) {
             due(desk.shut(4, i, 0), points[i]);
             due(desk.shut(4, i, 10), points[i] * 1024);
         }
-        MomentDesk third = told(3, -1);
+        MomentDesk third = told(3, -1).desk();
         due(third.shut(1, 0, 0), -1);
         due(third.shut(1, 0, 1), -1);
         due(third.shut(1, 0, 2), -2);
@@ -745,11 +602,11 @@ public final class PromiseTests {
             {1, -513, -2000001, -2000001}, {2, 1023, 511, 511 * 1024 + 512}, {2, -1025, -2000001, -2000001},
             {1950, 998399, 511, 512 * 1024 - 1}, {1, 1000000, -2000001, -2000001}};
         for (int[] end : ends) {
-            due(told(end[0], end[1]).shut(1, 0, 0), end[2]);
-            due(told(end[0], end[1]).shut(1, 0, 10), end[3]);
+            due(told(end[0], end[1]).desk().shut(1, 0, 0), end[2]);
+            due(told(end[0], end[1]).desk().shut(1, 0, 10), end[3]);
         }
         // x (x - 600) - 1 / 2
-        MomentDesk far = told(2, 0, 1, 600);
+        MomentDesk far = told(2, 0, 1, 600).desk();
         due(far.shut(2, 0, 0), -1);
         due(far.shut(2, 1, 0), -2000001);
         int[][] unknown = {{5, 0, 0}, {4, 4, 0}, {4, -1, 0}, {-1, 0, 0}, {0, 0, 0}, {HIGHEST, HIGHEST, 0}, {4, 4, 11}, {4, LOWEST, -1}};
@@ -759,25 +616,24 @@ public final class PromiseTests {
         int[] outside = {-1, 11, LOWEST, HIGHEST};
         for (int d : outside) {
             due(desk.shut(4, 0, d), -3000002);
-            due(told(2, 0, -1).shut(2, 0, d), -3000002);
+            due(told(2, 0, -1).desk().shut(2, 0, d), -3000002);
         }
-        due(told(2, 0, -1).shut(2, 1, 0), -3000005);
-        due(told(2, 0, -1).shut(2, 2, 0), -3000001);
-        due(told(2, 0, -1).shut(1, 0, 0), 0);
-        due(told(-2, 1).shut(1, 0, 0), -3000005);
+        due(told(2, 0, -1).desk().shut(2, 1, 0), -3000005);
+        due(told(2, 0, -1).desk().shut(2, 2, 0), -3000001);
+        due(told(2, 0, -1).desk().shut(1, 0, 0), 0);
+        due(told(-2, 1).desk().shut(1, 0, 0), -3000005);
     }
 
-    private static void good() {
-        promise(25);
+    static void good() {
         due(new MomentDesk().good(), 0);
-        due(list(1, -1).good(), 0);
-        due(list(1, 1).good(), 1);
-        due(span(0, 1).good(), 6);
-        due(list(-2, 1, -1, 1, 0, 1, 1, 1, 2, 1).good(), 5);
-        due(list(-2, 1, -1, 1, 0, 1, 1, 1, 2, 1, 3, 1).good(), 6);
-        due(list(-2, 1, -1, 1, 0, 1, 1, 1, 2, 1, 3, 1, 4, 1).good(), 6);
-        due(told(2, 0, -1, 0, 9).good(), 1);
-        MomentDesk fewer = span(0, 1);
+        due(list(1, -1).desk().good(), 0);
+        due(list(1, 1).desk().good(), 1);
+        due(span(0, 1).desk().good(), 6);
+        due(list(-2, 1, -1, 1, 0, 1, 1, 1, 2, 1).desk().good(), 5);
+        due(list(-2, 1, -1, 1, 0, 1, 1, 1, 2, 1, 3, 1).desk().good(), 6);
+        due(list(-2, 1, -1, 1, 0, 1, 1, 1, 2, 1, 3, 1, 4, 1).desk().good(), 6);
+        due(told(2, 0, -1, 0, 9).desk().good(), 1);
+        MomentDesk fewer = span(0, 1).desk();
         for (int last = 10; last >= 3; last--) {
             fewer.by(-1);
             due(fewer.told(1), last);
@@ -785,38 +641,36 @@ public final class PromiseTests {
         }
     }
 
-    private static void few() {
-        promise(26);
+    static void few() {
         due(new MomentDesk().few(), 0);
-        due(list(4, 7).few(), 1);
-        due(list(-2, 1, -1, 1, 0, 1, 1, 1, 2, 1).few(), 5);
-        due(list(-2, 1, -1, 1, 0, 1, 1, 1, 2, 1, 3, 1).few(), -6);
-        due(span(0, 1).few(), -6);
-        due(list(4, -7).few(), -6);
-        due(list(1, 1, 2, 1, 3, -1).few(), -6);
-        due(told(0, 0, 0, 0, 0, 0, 0, 0, 0, 0, 0, 1).few(), -6);
-        due(told(1, 1, 1, 1, 1, 1, 1, 1, 1, 1, 1, 1).few(), 1);
-        due(told(1, 1, 1, 1, 1, 1, 1, 1, 1, 1, 1, 2).few(), -6);
-        MomentDesk cut = told(1, 1, 1, 1, 1, 1, 1, 1, 1, 1, 1, 2);
+        due(list(4, 7).desk().few(), 1);
+        due(list(-2, 1, -1, 1, 0, 1, 1, 1, 2, 1).desk().few(), 5);
+        due(list(-2, 1, -1, 1, 0, 1, 1, 1, 2, 1, 3, 1).desk().few(), -6);
+        due(span(0, 1).desk().few(), -6);
+        due(list(4, -7).desk().few(), -6);
+        due(list(1, 1, 2, 1, 3, -1).desk().few(), -6);
+        due(told(0, 0, 0, 0, 0, 0, 0, 0, 0, 0, 0, 1).desk().few(), -6);
+        due(told(1, 1, 1, 1, 1, 1, 1, 1, 1, 1, 1, 1).desk().few(), 1);
+        due(told(1, 1, 1, 1, 1, 1, 1, 1, 1, 1, 1, 2).desk().few(), -6);
+        MomentDesk cut = told(1, 1, 1, 1, 1, 1, 1, 1, 1, 1, 1, 2).desk();
         cut.by(0);
         cut.by(0);
         due(cut.few(), -6);
-        MomentDesk two = list(3, 1, 5, 1);
+        MomentDesk two = list(3, 1, 5, 1).desk();
         while (two.told(1) > 3) {
             two.by(0);
         }
         due(two.few(), -6);
         due(two.good(), 2);
-        MomentDesk one = list(3, 1);
+        MomentDesk one = list(3, 1).desk();
         while (one.told(1) > 3) {
             one.by(0);
         }
         due(one.few(), 1);
     }
 
-    private static void told() {
-        promise(27);
-        MomentDesk desk = list(1, 1, 2, 2);
+    static void told() {
+        MomentDesk desk = list(1, 1, 2, 2).desk();
         state(desk, 0, 11, 2, 0);
         due(desk.told(4), 2);
         desk.by(1);
@@ -834,18 +688,17 @@ public final class PromiseTests {
             desk.by(0);
             due(desk.told(4), tops[last - 3]);
         }
-        state(told(1, 2), 1, 11, 0, 0);
-        due(told(1, 2).told(4), 2);
-        due(told(0, 2).told(4), 0);
+        state(told(1, 2).desk(), 1, 11, 0, 0);
+        due(told(1, 2).desk().told(4), 2);
+        due(told(0, 2).desk().told(4), 0);
         int[] bad = {-1, 5, LOWEST, HIGHEST};
         for (int what : bad) {
             due(desk.told(what), -2);
         }
     }
 
-    private static void keep() {
-        promise(28);
-        MomentDesk desk = list(1, 1, 2, 2);
+    static void keep() {
+        MomentDesk desk = list(1, 1, 2, 2).desk();
         due(desk.keep(0), 1);
         desk.point(5, 5);
         due(desk.keep(1), 1);
@@ -866,9 +719,8 @@ public final class PromiseTests {
         due(desk.told(3), 1);
     }
 
-    private static void back() {
-        promise(29);
-        MomentDesk desk = list(1, 1, 2, 98);
+    static void back() {
+        MomentDesk desk = list(1, 1, 2, 98).desk();
         due(desk.back(0), -1);
         desk.keep(0);
         desk.point(2, -98);
@@ -897,9 +749,8 @@ public final class PromiseTests {
         due(desk.layMoment(10), -1);
     }
 
-    private static void differs() {
-        promise(30);
-        MomentDesk desk = list(1, 1, 3, 1, 5, 1);
+    static void differs() {
+        MomentDesk desk = list(1, 1, 3, 1, 5, 1).desk();
         due(desk.differs(0), -1);
         desk.keep(0);
         due(desk.differs(0), -6);
@@ -930,19 +781,19 @@ public final class PromiseTests {
         desk.keep(0);
         desk.by(9);
         due(desk.differs(0), 1);
-        MomentDesk told = told(2, 0, 1, 0, 1);
+        MomentDesk told = told(2, 0, 1, 0, 1).desk();
         told.keep(1);
         told.moment(9, 1);
         due(told.differs(1), 5);
         told.moment(9, 0);
         told.moment(10, 7);
         due(told.differs(1), -6);
-        MomentDesk tops = span(-1, 1);
+        MomentDesk tops = span(-1, 1).desk();
         tops.keep(0);
         tops.counted(0, 2, 0, 0);
         tops.mirror(1);
         due(tops.differs(0), 2);
-        MomentDesk lone = told(2, 0, 0);
+        MomentDesk lone = told(2, 0, 0).desk();
         lone.keep(0);
         lone.moment(2, 1);
         due(lone.differs(0), 2);
