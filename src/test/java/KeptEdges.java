@@ -160,6 +160,37 @@ public final class KeptEdges extends Bench {
         due(told.point(1, 1), -3);
     }
 
+    /** THE HAND is not kept: what was laid since then stays. */
+    static void backLeavesTheHand() {
+        MomentDesk desk = list(1, 2).desk();
+        desk.layMoment(0);
+        desk.keep(0);
+        desk.point(3, 5);
+        laid(desk, desk.layRule(0, 0), 17, 7);
+        due(desk.back(0), 11);
+        inHand(desk, 17, 7);
+        due(desk.keep(1), 1);
+        inHand(desk, 17, 7);
+    }
+
+    /** Calls that make other WEIGHTS leave what is kept as it is. */
+    static void otherWeightsLeaveWhatIsKept() {
+        Call[] calls = {d -> d.clear(), d -> d.point(9, 1), d -> d.clear(), d -> d.moment(0, 1), d -> d.span(0, 1),
+            d -> d.counted(0, 9, 0, 0), d -> d.by(1), d -> d.mirror(1)};
+        MomentDesk desk = list(1, 2).desk();
+        desk.keep(0);
+        desk.span(2, 3);
+        desk.keep(1);
+        for (Call call : calls) {
+            due(call.on(desk) < 0 ? 0 : 1, 1);
+            desk.keep(1);
+            due(desk.back(0), 11);
+            state(desk, 0, 11, 1, 0);
+            laid(desk, desk.layMoment(11), 2, 1);
+            desk.back(1);
+        }
+    }
+
     /** A place can be taken back as often as one likes. */
     static void backAgain() {
         MomentDesk desk = list(1, 2).desk();

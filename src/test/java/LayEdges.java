@@ -397,10 +397,10 @@ public final class LayEdges extends Bench {
     /** "UNKNOWN: .. MOMENT d .. not there" */
     static void layLeftUpToItsMoment() {
         MomentDesk desk = span(0, 1).desk();
-        laid(desk, desk.layLeft(1, 11), 2310 * 256 - 3465, 256);
+        long[][] atEleven = {{587895, 256}, {279125, 216}, {1899051, 8000}, {7293, 490}, {55, 252}};
         for (int n = 1; n <= 5; n++) {
             int degree = n;
-            due(desk.layLeft(n, 11), 1);
+            laid(desk, desk.layLeft(n, 11), atEleven[n - 1][0], atEleven[n - 1][1]);
             refuses(span(0, 1), UNKNOWN, d -> d.layLeft(degree, 12));
             refuses(span(0, 1), UNKNOWN, d -> d.layLeft(degree, HIGHEST));
         }
@@ -408,6 +408,16 @@ public final class LayEdges extends Bench {
         laid(nine, nine.layLeft(5, 9), 0, 1);
         refuses(span(-1, 1).shortened(9), UNKNOWN, d -> d.layLeft(5, 10));
         refuses(span(-1, 1).shortened(9), UNKNOWN, d -> d.layLeft(1, 10));
+    }
+
+    /** The same with MOMENTS that are told, of which some WORTHS are below 0. */
+    static void layLeftUpToItsMomentOfToldOnes() {
+        MomentDesk desk = told(3, 1, 4, 1, 5, 9, 2, 6, 5, 3, 5, 8).desk();
+        long[][] atEleven = {{472391, 59049}, {2022844102, 214358881}, {-3956880890951L, 4096},
+            {-20097180099731L, 244242535681L}, {-495304539, 291248356}};
+        for (int n = 1; n <= 5; n++) {
+            laid(desk, desk.layLeft(n, 11), atEleven[n - 1][0], atEleven[n - 1][1]);
+        }
     }
 
     /** "UNKNOWN: .. n is 0" */

@@ -9,7 +9,7 @@ abstract class Bench {
     static final int UNKNOWN = -1, OUTSIDE = -2, STATE = -3, FULL = -4, NO = -5, NONE = -6;
     /** LAST at first. */
     static final int LAST = 11;
-    /** From here on the document leaves answers free. */
+    /** What later calls on a desk answer is free. */
     static final int MOST_CALLS = 512;
     static final int MILLION = 1000000;
     /** u, v that are not as told in layValue(). */
