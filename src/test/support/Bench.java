@@ -79,7 +79,7 @@ abstract class Bench {
         }
     }
 
-    private static void fail(String what) {
+    static void fail(String what) {
         wrong++;
         System.out.println(test + ", row " + row + ": " + what);
     }
